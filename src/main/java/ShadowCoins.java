@@ -847,7 +847,18 @@ public final class ShadowCoins {
       while (end < tape.length && isLetter(tape.at(end))) {
         end++;
       }
-      value = wordNumber(end - start);
+      value = NONE;
+      int letters = end - start;
+      for (int word = 0; word < WORD_COUNT && letters <= LONGEST_NAME; word++) {
+        int column = word * LONGEST_NAME;
+        int k = 0;
+        while (k < letters && WORDS.charAt(column + k) == tape.at(start + k)) {
+          k++;
+        }
+        if (k == letters && (k == LONGEST_NAME || WORDS.charAt(column + k) == ' ')) {
+          value = word;
+        }
+      }
     }
 
     private void readNumeral() {
@@ -860,23 +871,6 @@ public final class ShadowCoins {
         }
         end++;
       }
-    }
-
-    private int wordNumber(int letters) {
-      if (letters > LONGEST_NAME) {
-        return NONE;
-      }
-      for (int word = 0; word < WORD_COUNT; word++) {
-        int column = word * LONGEST_NAME;
-        int k = 0;
-        while (k < letters && WORDS.charAt(column + k) == tape.at(start + k)) {
-          k++;
-        }
-        if (k == letters && (k == LONGEST_NAME || WORDS.charAt(column + k) == ' ')) {
-          return word;
-        }
-      }
-      return NONE;
     }
 
     boolean isWord(int word) {
@@ -1007,20 +1001,15 @@ public final class ShadowCoins {
         scan.step();
         code.putOperation(ALL);
       } else {
-        comparison();
+        sum();
+        int sign = scan.value;
+        if (!scan.isSign('<') && !scan.isSign('>') && !scan.isSign('=')) {
+          scan.fail(NO_SUCH_TEXT, scan.start);
+        }
+        scan.step();
+        sum();
+        code.putOperation(sign);
       }
-    }
-
-    private void comparison() {
-      sum();
-      int sign = scan.value;
-      if (!scan.isSign('<') && !scan.isSign('>') && !scan.isSign('=')) {
-        scan.fail(NO_SUCH_TEXT, scan.start);
-        return;
-      }
-      scan.step();
-      sum();
-      code.putOperation(sign);
     }
 
     private void sum() {
@@ -1149,7 +1138,8 @@ public final class ShadowCoins {
       }
       switch (scan.value) {
         case FAIR:
-          fair.minutes = numberBehind(FAIR, LEAST_MINUTES, LATEST);
+          scan.step();
+          fair.minutes = scan.takeNumber(LEAST_MINUTES, LATEST);
           break;
         case STALL:
           readStall(fair);
@@ -1161,25 +1151,30 @@ public final class ShadowCoins {
           readCloud(fair);
           break;
         case SHADE:
-          readShade(fair);
+          if (hasRoom(fair.shade.size, 1)) {
+            scan.step();
+            grammar.begin(fair.shade, Grammar.IN_SHADE);
+            grammar.sum();
+          }
           break;
         case REFUSE:
-          readRefuse(fair);
+          if (hasRoom(fair.refuse.size, 1)) {
+            scan.step();
+            grammar.begin(fair.refuse, Grammar.IN_REFUSE);
+            grammar.test();
+          }
           break;
         case BRIDGE:
-          fair.toll = numberBehind(BRIDGE, 0, GREATEST_NUMBER);
+          scan.step();
+          fair.toll = scan.takeNumber(0, GREATEST_NUMBER);
           break;
         case GUST:
-          fair.gust = numberBehind(GUST, 0, DRAW_OF);
+          scan.step();
+          fair.gust = scan.takeNumber(0, DRAW_OF);
           break;
         default:
           scan.fail(NO_SUCH_TEXT, scan.start);
       }
-    }
-
-    private int numberBehind(int word, int least, int greatest) {
-      scan.takeWord(word);
-      return scan.takeNumber(least, greatest);
     }
 
     /** Whether one more of a kind can be, of which there are so many; else there is a fault. */
@@ -1198,10 +1193,14 @@ public final class ShadowCoins {
       }
       scan.step();
       fair.stallName[k] = scan.takeName(fair);
-      fair.place[k] = numberBehind(AT, 0, LAST_PLACE);
-      fair.turn[k] = numberBehind(TURN, 0, 9);
-      fair.price[k] = numberBehind(PRICE, 0, LONGEST_SHADOW);
-      fair.shut[k] = numberBehind(SHUT, 0, LATEST);
+      scan.takeWord(AT);
+      fair.place[k] = scan.takeNumber(0, LAST_PLACE);
+      scan.takeWord(TURN);
+      fair.turn[k] = scan.takeNumber(0, 9);
+      scan.takeWord(PRICE);
+      fair.price[k] = scan.takeNumber(0, LONGEST_SHADOW);
+      scan.takeWord(SHUT);
+      fair.shut[k] = scan.takeNumber(0, LATEST);
       fair.stalls++;
     }
 
@@ -1212,8 +1211,10 @@ public final class ShadowCoins {
       }
       scan.step();
       fair.coinName[k] = scan.takeName(fair);
-      fair.width[k] = numberBehind(WIDTH, 0, 99);
-      fair.hole[k] = numberBehind(HOLE, 0, 9);
+      scan.takeWord(WIDTH);
+      fair.width[k] = scan.takeNumber(0, 99);
+      scan.takeWord(HOLE);
+      fair.hole[k] = scan.takeNumber(0, 9);
       fair.coins++;
     }
 
@@ -1222,25 +1223,11 @@ public final class ShadowCoins {
       if (!hasRoom(k, MOST_TOLD_CLOUDS)) {
         return;
       }
-      fair.cloudFirst[k] = numberBehind(CLOUD, 0, LATEST);
-      fair.cloudLast[k] = numberBehind(TO, fair.cloudFirst[k], LATEST);
+      scan.step();
+      fair.cloudFirst[k] = scan.takeNumber(0, LATEST);
+      scan.takeWord(TO);
+      fair.cloudLast[k] = scan.takeNumber(fair.cloudFirst[k], LATEST);
       fair.clouds++;
-    }
-
-    private void readShade(Fair fair) {
-      if (hasRoom(fair.shade.size, 1)) {
-        scan.step();
-        grammar.begin(fair.shade, Grammar.IN_SHADE);
-        grammar.sum();
-      }
-    }
-
-    private void readRefuse(Fair fair) {
-      if (hasRoom(fair.refuse.size, 1)) {
-        scan.step();
-        grammar.begin(fair.refuse, Grammar.IN_REFUSE);
-        grammar.test();
-      }
     }
   }
 
@@ -1324,13 +1311,13 @@ public final class ShadowCoins {
       switch (operation) {
         case OR: return left | right;
         case AND: return left & right;
-        case MIN: return Math.min(left, right);
-        case MAX: return Math.max(left, right);
+        case MIN: return left < right ? left : right;
+        case MAX: return left > right ? left : right;
         case '<': return left < right ? 1 : 0;
         case '>': return left > right ? 1 : 0;
         case '=': return left == right ? 1 : 0;
-        case '+': return within(left + right);
-        case '-': return within(left - right);
+        case '+': return within((long) left + right);
+        case '-': return within((long) left - right);
         case '*': return within((long) left * right);
         case '/': return right == 0 ? 0 : Math.floorDiv(left, right);
         default: return 0;
@@ -1338,7 +1325,10 @@ public final class ShadowCoins {
     }
 
     private static int within(long value) {
-      return (int) Math.max(-FARTHEST, Math.min(FARTHEST, value));
+      if (value > FARTHEST) {
+        return FARTHEST;
+      }
+      return value < -FARTHEST ? -FARTHEST : (int) value;
     }
   }
 
@@ -1391,13 +1381,9 @@ public final class ShadowCoins {
       if (place < 0 || place >= cells.length) {
         return 0;
       }
-      if (cells[place] == UNKNOWN) {
-        cells[place] = reckon(coin, stall, minute);
+      if (cells[place] != UNKNOWN) {
+        return cells[place];
       }
-      return cells[place];
-    }
-
-    private int reckon(int coin, int stall, int minute) {
       reckoner.width = fair.width[coin];
       reckoner.hole = fair.hole[coin];
       reckoner.turn = fair.turn[stall];
@@ -1408,7 +1394,8 @@ public final class ShadowCoins {
       reckoner.length = length;
       boolean enough = length >= fair.price[stall];
       boolean refused = enough && fair.refuse.size > 0 && reckoner.run(fair.refuse) != 0;
-      return 2 * length + (enough && !refused ? 1 : 0);
+      cells[place] = 2 * length + (enough && !refused ? 1 : 0);
+      return cells[place];
     }
   }
 
@@ -1589,20 +1576,14 @@ public final class ShadowCoins {
         if (!day.hasBought(stall)) {
           wanted |= 1 << stall;
           placeOf[stall] = fair.place[stall];
-          lookAhead(light, day, coin, stall);
+          int next = NONE;
+          for (int minute = latest; minute >= day.minute; minute--) {
+            next = light.paysAt(coin, stall, minute) ? minute : next;
+            soonest[stall][minute] = next;
+          }
         }
       }
       visit(0, day.place, day.minute, 0);
-    }
-
-    private void lookAhead(Light light, Day day, int coin, int stall) {
-      int next = NONE;
-      for (int minute = latest; minute >= day.minute; minute--) {
-        if (light.paysAt(coin, stall, minute)) {
-          next = minute;
-        }
-        soonest[stall][minute] = next;
-      }
     }
 
     /** Orders come first row first, so that only a sooner end replaces the best. */

@@ -83,6 +83,11 @@ public final class QuestionTest {
     x.pause(11);
     answer(x, "total at 2", 0);
     answer(x, "most shade 0", 28);
+    // stalls of an earlier fair are no more
+    Check.fair(x, "fair 30;stall a at 4 turn 1 price 0 shut 20;coin p width 5 hole 2;");
+    answer(x, "total shade 1", 0);
+    answer(x, "total at 1", 0);
+    answer(x, "total shade 0", 5);
     ShadowCoins y = Check.at("fair 30;stall a at 4 turn 1 price 12 shut 20;coin p width 5 hole 2;coin q width 5 hole 2;");
     answer(y, "total here", -2);
     answer(y, "least here", -1);

@@ -13,6 +13,8 @@ public final class ShadowTest {
     bridges();
     change();
     chalked();
+    lastMinutes();
+    largest();
     check.finish();
   }
 
@@ -205,6 +207,50 @@ public final class ShadowTest {
     check.due("in a cloud, second", x.change(0, 0, 1), 1);
     check.due("in a cloud, 2", x.change(0, 2, 0), -1);
     check.due("one coin alone", Check.at("fair 20;stall s at 0 turn 0 price 0 shut 0;coin a width 5 hole 0;").change(0, 0, 0), -1);
+  }
+
+  /** What is so in the fair's last minute alone. */
+  private static void lastMinutes() {
+    ShadowCoins x = Check.at("fair 20;stall s at 0 turn 0 price 20 shut 21;stall t at 0 turn 0 price 99 shut 21;"
+        + "coin a width 0 hole 0;shade minute;");
+    check.due("first in the last", x.when(0, 0, 0), 20);
+    check.due("last in the last", x.when(0, 0, 1), 20);
+    check.due("odd in the last", x.odd(0, 0, 1), 20);
+    check.due("chalked in the last", x.chalked(0, 20, 1), 20);
+    check.due("strike up to it", x.strike(0, 0), 20);
+    check.due("handy in it", x.handy(20), 0);
+    Check.see(x, 0, 0, 0, 20);
+    check.due("minutes", x.minutes(1), 20);
+    check.due("lamps", x.lamps(0), 0);
+    check.due("lamps when", x.lamps(2), 20);
+    x.pause(20);
+    check.due("first now", x.when(0, 0, 0), 20);
+  }
+
+  /** As many coins and stalls and minutes as can be, in the last of each. */
+  private static void largest() {
+    StringBuilder text = new StringBuilder("fair 400;cloud 400 to 400;bridge 3236;shade width*10+hole+turn+minute-minute/2*2;");
+    for (int k = 0; k < 6; k++) {
+      text.append("stall s").append((char) ('a' + k)).append(" at 99 turn ").append(k).append(" price ").append(900 + k).append(" shut 400;");
+    }
+    for (int k = 0; k < 8; k++) {
+      text.append("coin c").append((char) ('a' + k)).append(" width ").append(36 + k).append(" hole ").append(k).append(";");
+    }
+    ShadowCoins x = Check.at(text.toString());
+    for (int coin = 0; coin < 8; coin++) {
+      for (int stall = 0; stall < 6; stall++) {
+        for (int minute = 396; minute <= 400; minute++) {
+          int want = minute == 400 ? 0 : (36 + coin) * 10 + coin + stall + minute % 2;
+          check.due("the largest fair's shadow", x.shadow(coin, stall, minute), want);
+        }
+      }
+    }
+    check.due("a cloud in 400", x.buys(7, 0, 400), 0);
+    check.due("all eight are just enough", x.bridge(5, 399), 255);
+    check.due("all eight are not enough", x.bridge(4, 399), -1);
+    x = Check.at("fair 400;stall s at 0 turn 0 price 0 shut 0;coin a width 99 hole 0;coin n width 0 hole 0;shade width*99;");
+    check.due("change of 999, first", x.change(0, 999, 0), 0);
+    check.due("change of 999, second", x.change(0, 999, 1), 1);
   }
 
   private static void chalked() {
