@@ -1472,14 +1472,14 @@ public final class ShadowCoins {
       }
     }
 
-    /** The draw is made ahead of the minute that comes, and it is this one that a cloud is for. */
+    /** The draw is made ahead of the minute's going by: a cloud is for the minute that one is in still. */
     void waitByChance(Fair fair) {
       drawn = (1103515245L * drawn + 12345L) % (1L << 31);
-      minute++;
       if (drawn / 64 % DRAW_OF < fair.gust && fair.clouds + clouds < MOST_CLOUDS) {
         cloudMinute[clouds] = minute;
         clouds++;
       }
+      minute++;
     }
 
     static int imageLength(int clouds) {

@@ -7,6 +7,7 @@ public final class ActsTest {
     pausing();
     buying();
     chances();
+    cloudOfTheMinuteLeft();
     fullSky();
     undoing();
     seeds();
@@ -103,7 +104,7 @@ public final class ActsTest {
     for (int step = 1; step <= 5; step++) {
       int came = 0;
       int from = x.has(4);
-      for (int k = 1; k <= step; k++) {
+      for (int k = 0; k < step; k++) {
         if (drawn() < 40) {
           cloudy[from + k] = true;
           came++;
@@ -137,12 +138,37 @@ public final class ActsTest {
     check.due("clouds", x.has(3), 4);
   }
 
+  /** The cloud is in the minute that one waits, not in the one that one comes to. */
+  private static void cloudOfTheMinuteLeft() {
+    String text = "fair 20;stall a at 0 turn 0 price 1 shut 400;coin one width 5 hole 0;gust 100;";
+    ShadowCoins x = Check.at(text);
+    check.due("a cloud", x.chance(1), 1);
+    check.due("in 0", x.shadow(0, 0, 0), 0);
+    check.due("none in 1", x.shadow(0, 0, 1), 5);
+    check.due("none now", x.has(7), 0);
+    check.due("so the coin buys", x.buy(0, 0), true);
+    check.due("image", x.image(), 8);
+    check.due("the cloud's minute, higher byte", x.octet(5), 0);
+    check.due("the cloud's minute, lower byte", x.octet(6), 0);
+    // to the last minute of the fair: this one stays without a cloud
+    x = Check.at(text);
+    x.pause(17);
+    check.due("three", x.chance(3), 3);
+    for (int minute = 0; minute <= 20; minute++) {
+      check.due("shadow in " + minute, x.shadow(0, 0, minute), minute >= 17 && minute <= 19 ? 0 : 5);
+    }
+    check.due("pairs of a shadow of 0", x.chalked(0, 0, 0), 3);
+    check.due("the first", x.chalked(0, 0, 1), 17);
+  }
+
   private static void fullSky() {
     ShadowCoins x = Check.at("fair 100;gust 100;cloud 99 to 100;cloud 99 to 100;");
     check.due("fourteen more", x.chance(20), 14);
+    check.due("image", x.image(), 34);
+    check.due("the first in 0", x.octet(6), 0);
+    check.due("the last in 13", x.octet(32), 13);
     check.due("sixteen", x.has(3), 16);
     check.due("none more", x.chance(3), 0);
-    check.due("no cloud in 15", x.shadow(0, 0, 15), -1);
     check.due("has(7) in 23", x.has(7), 0);
     x.undo();
     x.undo();
@@ -175,10 +201,13 @@ public final class ActsTest {
     check.due("minute", x.has(4), 17);
     check.due("undo pause", x.undo(), true);
     check.due("minute", x.has(4), 12);
-    check.due("a cloud", x.has(7), 1);
+    check.due("a cloud in 10", x.shadow(0, 0, 10), 0);
+    check.due("a cloud in 11", x.shadow(0, 0, 11), 0);
+    check.due("none now", x.has(7), 0);
     check.due("undo chance", x.undo(), true);
     check.due("minute", x.has(4), 10);
     check.due("no clouds", x.has(3), 0);
+    check.due("sun again", x.shadow(0, 0, 10), 1);
     check.due("sun again", x.shadow(0, 0, 11), 1);
     check.due("undo walk", x.undo(), true);
     check.due("minute", x.has(4), 0);

@@ -34,7 +34,7 @@ public final class ImageTest {
     x.pause(254 - 20);
     x.chance(3);
     check.due("the latest image stays till the next", x.octet(1), 20);
-    image(x, 1, 1, 20, 1, 3, 0, 255, 1, 0, 1, 1);
+    image(x, 1, 1, 20, 1, 3, 0, 254, 0, 255, 1, 0);
     x.undo();
     image(x, 0, 254, 20, 1, 0);
     x.chance(14);
@@ -42,7 +42,7 @@ public final class ImageTest {
     ShadowCoins y = Check.at("fair 300;gust 100;");
     y.chance(16);
     check.due("the very longest", y.image(), 38);
-    check.due("its last minute", y.octet(36), 16);
+    check.due("its last minute", y.octet(36), 15);
     check.due("its end", y.octet(38), -1);
   }
 

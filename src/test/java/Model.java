@@ -178,10 +178,10 @@ final class Model {
     int before = clouds.size();
     for (int k = 0; k < n; k++) {
       seed = (1103515245L * seed + 12345L) % 2147483648L;
-      minute++;
       if (seed / 64 % 100 < gust && clouds.size() + told.size() < 16) {
         clouds.add(minute);
       }
+      minute++;
     }
     return clouds.size() - before;
   }
