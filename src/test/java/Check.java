@@ -4,17 +4,56 @@ import java.nio.charset.StandardCharsets;
 final class Check {
   private int wrong = 0;
   private int looked = 0;
+  private String sentence = "";
+
+  /** The sentence of the document that the next answers hold; told with each that is wrong. */
+  void says(String words) {
+    sentence = " (" + words + ")";
+  }
 
   void due(String call, long got, long want) {
     looked++;
     if (got != want) {
       wrong++;
-      System.out.println(call + " answered " + got + ", due is " + want);
+      System.out.println(call + " answered " + got + ", due is " + want + sentence);
     }
   }
 
   void due(String call, boolean got, boolean want) {
     due(call, got ? 1 : 0, want ? 1 : 0);
+  }
+
+  /** A fair's text with a fault of a kind at the mark #, which is taken out. */
+  void badFair(String marked, int kind) {
+    String text = marked.replace("#", "");
+    ShadowCoins x = new ShadowCoins();
+    due("fair() of " + text, fair(x, text), ShadowCoins.NONE);
+    due("fault(0) of " + text, x.fault(0), kind);
+    due("fault(1) of " + text, x.fault(1), marked.indexOf('#'));
+  }
+
+  /** A fair's text without a fault. */
+  ShadowCoins goodFair(String text, int statements) {
+    ShadowCoins x = new ShadowCoins();
+    due("fair() of " + text, fair(x, text), statements);
+    due("fault(0) of " + text, x.fault(0), 0);
+    due("fault(1) of " + text, x.fault(1), ShadowCoins.NONE);
+    return x;
+  }
+
+  /** A question with a fault of a kind at the mark #, which is taken out. */
+  void badQuestion(ShadowCoins x, String marked, int kind) {
+    String text = marked.replace("#", "");
+    due("ask() of " + text, ask(x, text), ShadowCoins.NOTHING);
+    due("fault(0) of " + text, x.fault(0), kind);
+    due("fault(1) of " + text, x.fault(1), marked.indexOf('#'));
+  }
+
+  /** A question without a fault. */
+  void answer(ShadowCoins x, String question, long want) {
+    due("ask() of " + question, ask(x, question), want);
+    due("fault(0) of " + question, x.fault(0), 0);
+    due("fault(1) of " + question, x.fault(1), ShadowCoins.NONE);
   }
 
   /** Prints what came of it and ends the program with exit code 1 if an answer was wrong. */

@@ -7,7 +7,7 @@ public final class OracleTest {
   private static final Check check = new Check();
 
   public static void main(String[] args) {
-    int runs = args.length > 0 ? Integer.parseInt(args[0]) : 250;
+    int runs = args.length > 0 ? Integer.parseInt(args[0]) : 1000;
     for (int run = 0; run < runs; run++) {
       new OracleTest(run).run();
     }
@@ -18,6 +18,9 @@ public final class OracleTest {
   private final Random r;
   private final Model m;
   private final ShadowCoins x = new ShadowCoins();
+  /** An object is used for 512 calls; what it answers later is free. */
+  private static final int MOST_CALLS = 512;
+  private int calls = 0;
 
   private OracleTest(int number) {
     this.number = number;
@@ -30,20 +33,36 @@ public final class OracleTest {
   }
 
   private void due(String call, long got, long want) {
+    calls++;
     check.due("run " + number + ": " + call, got, want);
   }
 
+  private void due(String call, boolean got, boolean want) {
+    due(call, got ? 1 : 0, want ? 1 : 0);
+  }
+
+  /** Bytes on the tape take calls, too: two ends, and a feed for each twenty. */
+  private void told(int bytes) {
+    calls += 2 + (bytes + 19) / 20;
+  }
+
   private void run() {
+    told(m.text.length());
     due("fair " + m.text, Check.fair(x, m.text), m.statements);
     due("fault", x.fault(0), 0);
-    for (int step = 0; step < 12; step++) {
-      states();
-      looks();
-      plans();
-      questions();
-      seen();
+    // no piece takes more calls than these
+    while (calls <= MOST_CALLS - 150) {
+      switch (r.nextInt(6)) {
+        case 0 -> states();
+        case 1 -> looks();
+        case 2 -> plans();
+        case 3 -> questions();
+        case 4 -> seen();
+        default -> act();
+      }
       act();
     }
+    check.due("calls of run " + number + ": " + calls, calls <= MOST_CALLS, true);
   }
 
   private void states() {
@@ -93,7 +112,7 @@ public final class OracleTest {
   }
 
   private void looks() {
-    for (int n = 0; n < 10; n++) {
+    for (int n = 0; n < 3; n++) {
       int c = some(m.coins.size());
       int s = some(m.stalls.size());
       int t = some(m.stalls.size());
@@ -236,6 +255,7 @@ public final class OracleTest {
     f.write(words);
     String text = Model.joined(r, words);
     if (text.length() <= 1580) {
+      told(text.length());
       due(text, Check.ask(x, text), m.ask(word, f));
     }
   }
@@ -258,6 +278,7 @@ public final class OracleTest {
         bytes[k + 2] = length / 256;
         bytes[k + 3] = length % 256;
       }
+      told(bytes.length);
       due("see", Check.see(x, bytes), rows.size());
       m.seen = rows;
     }
@@ -299,7 +320,7 @@ public final class OracleTest {
           m.act();
           m.minute += n;
         }
-        check.due("pause", x.pause(n), can);
+        due("pause", x.pause(n), can);
       }
       case 1 -> {
         boolean can = n > 0 && m.minute + n <= m.minutes;
@@ -313,11 +334,11 @@ public final class OracleTest {
         if (can) {
           m.undo();
         }
-        check.due("undo", x.undo(), can);
+        due("undo", x.undo(), can);
       }
       case 3 -> {
         m.seed = r.nextInt(Integer.MAX_VALUE);
-        check.due("seed", x.seed((int) m.seed), true);
+        due("seed", x.seed((int) m.seed), true);
       }
       case 4 -> walk(n);
       case 5 -> {
@@ -348,7 +369,7 @@ public final class OracleTest {
       m.bought |= 1 << s;
       m.kept.add(new int[] {m.minute, s, c});
     }
-    check.due("buy", x.buy(c, s), can);
+    due("buy", x.buy(c, s), can);
   }
 
   /** One goes on from an image, sometimes with a bit of it turned over. */
@@ -362,6 +383,7 @@ public final class OracleTest {
       m.past.clear();
       m.kept = new ArrayList<>();
     }
-    check.due("on", Check.on(x, all), !spoilt);
+    told(all.length);
+    due("on", Check.on(x, all), !spoilt);
   }
 }
