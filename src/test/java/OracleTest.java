@@ -2,7 +2,7 @@ import java.util.ArrayList;
 import java.util.List;
 import java.util.Random;
 
-/** Random fairs, acts and questions, each answer held against the plain model: promises 4 to 34 together. */
+/** Random fairs (several on an object), acts and questions, each answer held against the plain model: promises 4 to 34 together. */
 public final class OracleTest {
   private static final Check check = new Check();
 
@@ -16,7 +16,7 @@ public final class OracleTest {
 
   private final int number;
   private final Random r;
-  private final Model m;
+  private Model m;
   private final ShadowCoins x = new ShadowCoins();
   /** An object is used for 512 calls; what it answers later is free. */
   private static final int MOST_CALLS = 512;
@@ -25,11 +25,15 @@ public final class OracleTest {
   private OracleTest(int number) {
     this.number = number;
     r = new Random(number);
+    m = someFair();
+  }
+
+  private Model someFair() {
     Model model = new Model(r);
     while (model.text.length() > 1580) {
       model = new Model(r);
     }
-    m = model;
+    return model;
   }
 
   private void due(String call, long got, long want) {
@@ -47,10 +51,8 @@ public final class OracleTest {
   }
 
   private void run() {
-    told(m.text.length());
-    due("fair " + m.text, Check.fair(x, m.text), m.statements);
-    due("fault", x.fault(0), 0);
-    // no piece takes more calls than these
+    begin();
+    // no piece takes more calls than these, and no other fair more than 220
     while (calls <= MOST_CALLS - 150) {
       switch (r.nextInt(6)) {
         case 0 -> states();
@@ -61,8 +63,36 @@ public final class OracleTest {
         default -> act();
       }
       act();
+      if (r.nextInt(16) == 0 && calls <= MOST_CALLS - 220) {
+        anotherFair();
+      }
     }
     check.due("calls of run " + number + ": " + calls, calls <= MOST_CALLS, true);
+  }
+
+  private void begin() {
+    told(m.text.length());
+    due("fair " + m.text, Check.fair(x, m.text), m.statements);
+    due("fault", x.fault(0), 0);
+  }
+
+  /** Another fair takes the place of this one, but for the seed; a part of its text leaves all as it is. */
+  private void anotherFair() {
+    Model next = someFair();
+    if (r.nextBoolean()) {
+      next.seed = m.seed;
+      m = next;
+      begin();
+      return;
+    }
+    String part = next.text.substring(0, r.nextInt(next.text.lastIndexOf(';')));
+    boolean whole = part.strip().endsWith(";");
+    if (!whole) {
+      told(part.length());
+      due("a part: " + part, Check.fair(x, part), ShadowCoins.NONE);
+      due("its fault", x.fault(0) != 0, true);
+      states();
+    }
   }
 
   private void states() {
